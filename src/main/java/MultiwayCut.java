@@ -30,7 +30,7 @@ public final class MultiwayCut {
     private int errorAt = NONE;
     private final Graph graph = new Graph();
     private final History history = new History();
-    private final SetupReader reader = new SetupReader(buffer);
+    private final SetupReader reader = new SetupReader();
     private final Grouping grouping = new Grouping();
     private final ExactSearch exactSearch = new ExactSearch();
     private final NearestSearch nearestSearch = new NearestSearch();
@@ -65,7 +65,7 @@ public final class MultiwayCut {
             throw new IllegalArgumentException("length is not within the input buffer");
         }
         bufferLength = 0;
-        boolean good = reader.read(length);
+        boolean good = reader.read(buffer, length);
         errorAt = good ? NONE : reader.errorStart;
         if (!good) {
             return reader.errorCode;
@@ -679,7 +679,7 @@ public final class MultiwayCut {
         final Graph graph = new Graph();
         int errorCode;
         int errorStart;
-        private final byte[] text;
+        private byte[] text = new byte[0];
         private int length;
         private int tokenKind;
         private int tokenStart;
@@ -690,13 +690,10 @@ public final class MultiwayCut {
         private final int[] codes = new int[BUFFER_MAX];
         private int codeTotal;
 
-        SetupReader(byte[] text) {
-            this.text = text;
-        }
-
-        boolean read(int textLength) {
+        boolean read(byte[] source, int sourceLength) {
             graph.clear();
-            length = Math.min(textLength, text.length);
+            text = source;
+            length = Math.min(sourceLength, source.length);
             tokenEnd = 0;
             loadedSet = 0;
             costSeen = false;

@@ -52,6 +52,8 @@ public final class AssignmentTest {
         due = due + 5.0f * 2.0f / 3.0f;
         due = due + 7.0f;
         Check.same("29: mean", Check.of(STAR).meanCost(), due);
+        MultiwayCut two = Check.of("graph 4;terminal 0;terminal 3;edge 0 1 3;edge 1 2 5;edge 0 3 7;");
+        Check.same("29: two terminals", two.meanCost(), 1.5f + 2.5f + 7.0f);
         Check.same("29: fewer than two terminals", Check.of("graph 2;terminal 0;edge 0 1 3;").meanCost(), 0.0f);
         Check.same("29: no terminal", Check.of("graph 2;edge 0 1 3;").meanCost(), 0.0f);
         Check.same("29: no vertices", new MultiwayCut().meanCost(), 0.0f);

@@ -101,9 +101,12 @@ public final class CutsTest {
         MultiwayCut tie = Check.of("graph 3;terminal 2;terminal 1;edge 0 1 4;edge 0 2 4;");
         Check.sameLong("18: a tie", tie.rounds(), 2);
         fixedAre(tie, "1 1 2");
-        // Terminal 0 can't take 4 while 5 is free, as 4 holds fast to it; behind terminal 1 it can.
+        // Terminal 0 could have 3 and 1 could have it, too: the first one in the round gets it.
         MultiwayCut late = Check.of("graph 5;terminal 0;terminal 1;terminal 2;edge 0 3 3;edge 3 4 2;edge 1 3 2;edge 2 4 9;");
         Check.sameLong("18: in ascending order", late.rounds(), 2);
         fixedAre(late, "0 1 2 -1 2");
+        late.setTerminal(0, false);
+        fixedAre(late, "1 1 2 1 2");
+        fixedAre(Check.of(CHAIN), "0 0 0 4 4");
     }
 }

@@ -13,6 +13,8 @@ final class NaiveCut {
         final int low;
         final int high;
         final int weight;
+        // 0: not computed yet; loads and the formula are the same as long as an edge is there
+        int cost = 0;
 
         Edge(int a, int b, int weight) {
             this.low = Math.min(a, b);
@@ -82,9 +84,12 @@ final class NaiveCut {
     // ---- Costs ----
 
     int costOf(Edge edge) {
-        long value = formula == null ? edge.weight
-            : new Expression(formula, edge.weight, loads[edge.low], loads[edge.high]).value();
-        return (int) Math.min(9999, Math.max(1, value));
+        if (edge.cost == 0) {
+            long value = formula == null ? edge.weight
+                : new Expression(formula, edge.weight, loads[edge.low], loads[edge.high]).value();
+            edge.cost = (int) Math.min(9999, Math.max(1, value));
+        }
+        return edge.cost;
     }
 
     /** Evaluates while it reads. */

@@ -25,9 +25,17 @@ public final class SearchTest {
             + "edge 0 1 1;edge 1 2 20;edge 2 3 30;edge 3 4 40;");
         Check.sameLong("20: all are terminals", all.exactCost(), 91);
         Check.sameText("21: all are terminals", exactOf(all), "0 1 2 3 4");
+        MultiwayCut readme = new MultiwayCut();
+        readme.append(0x67726170, 0x6820323b, 0x65646765, 0x20302031, 0x20353b00);
+        Check.sameLong("the example of README.md", readme.load(19), 1);
+        readme.setTerminal(0, true);
+        readme.setTerminal(1, true);
+        Check.sameLong("the example of README.md", readme.exactCost(), 5);
         MultiwayCut one = Check.of("graph 3;terminal 1;edge 0 1 1;");
         Check.sameLong("20: one terminal", one.exactCost(), 0);
         Check.sameText("21: one terminal", exactOf(one), "1 1 1");
+        Check.sameLong("20: one terminal then", one.setTerminal(2, true), 2);
+        Check.sameText("21: two terminals", exactOf(one), "1 1 2");
         MultiwayCut none = Check.of("graph 3;edge 0 1 1;");
         Check.sameLong("20: no terminal", none.exactCost(), 0);
         Check.sameText("21: no terminal", exactOf(none), "-1 -1 -1");

@@ -13,6 +13,7 @@ public final class TextTest {
         tooMany();
         tooDeep();
         errorsChangeNothing();
+        severalLoads();
         costValues();
         Check.end();
     }
@@ -134,6 +135,15 @@ public final class TextTest {
         bad("graph 2;;", code, 8);
         bad("graph 2; graph 2;", code, 9);
         bad("graph 2;terminals 1;", code, 8);
+        bad("draph 2;", code, 0);
+        bad("graph 2;germinal 1;", code, 8);
+        bad("graph 2;adge 0 1 1;", code, 8);
+        bad("graph 2;edgez 0 1 1;", code, 8);
+        bad("graph 2;goad 0 1;", code, 8);
+        bad("graph 2;post 1;", code, 8);
+        bad("graph 2;cost height;", code, 13);
+        bad("graph 2;cost row;", code, 13);
+        bad("graph 2;cost sigh;", code, 13);
         bad("graph 2;terminal;", code, 16);
         bad("graph 2;terminal 1", code, 18);
         bad("graph 2;terminal 1 1;", code, 19);
@@ -230,6 +240,18 @@ public final class TextTest {
         Check.sameLong("3: the formula is replaced", cut.edge(0, 3), 9);
     }
 
+    private static void severalLoads() {
+        MultiwayCut cut = Check.of("graph 3;terminal 0;edge 0 1 5;load 0 3;load 1 4;cost weight*2;");
+        Check.sameLong("3: the same again", Check.load(cut, "graph 3;terminal 0;edge 0 1 5;load 1 6;cost weight*3;"), 1);
+        Check.sameLong("3: a new cost statement", cut.edge(0, 3), 15);
+        Check.sameLong("3: a new load", cut.burden(1), 6);
+        Check.sameLong("3: no load any more", cut.burden(0), 0);
+        Check.sameLong("3: without a cost statement", Check.load(cut, "graph 2;edge 1 0 7;"), 1);
+        Check.sameLong("3: the cost is the weight", cut.edge(0, 3), 7);
+        Check.sameLong("3: no terminal any more", cut.terminals(), 0);
+        Check.sameText("3: labels", Check.labels(cut), "-1 -1");
+    }
+
     private static void value(String formula, int due) {
         MultiwayCut cut = Check.of("graph 4;edge 3 1 10;load 1 7;load 3 50;cost " + formula + ";");
         Check.sameLong("9: cost " + formula, cut.edge(0, 3), due);
@@ -258,5 +280,6 @@ public final class TextTest {
         value("9999*9999+9999*100-9999*100", 100);
         value("weight+low*high-(weight-low)*2", 354);
         value("1+(2*(3+(4*(5+6))))", 95);
+        value("1+2*(1+2*(1+2*(1+2*(1+2*3))))", 127);
     }
 }
