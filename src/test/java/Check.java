@@ -1,3 +1,7 @@
+import java.io.IOException;
+import java.nio.file.Files;
+import java.nio.file.Path;
+
 /** Counts the answers that are not as due, and makes objects from setup texts. */
 final class Check {
     interface Call {
@@ -6,29 +10,70 @@ final class Check {
 
     private static int asked = 0;
     private static int wrong = 0;
+    private static String sentence = "";
+    private static int askedBefore = 0;
+    private static String document = null;
+
+    /**
+     * The answers that follow stand for these words of the document. They have to be in it word for
+     * word, so that a document that changes shows which checks it changes.
+     */
+    static void sentence(String words) {
+        closeSentence();
+        sentence = "[" + words + "] ";
+        askedBefore = asked;
+        if (!document().isEmpty() && !document().contains(words)) {
+            wrong("is not in the document");
+        }
+    }
+
+    private static void closeSentence() {
+        if (!sentence.isEmpty() && asked == askedBefore) {
+            wrong("has no answer that stands for it");
+        }
+    }
+
+    /** Its words with single spaces; no words if the document is not where the tests run. */
+    private static String document() {
+        if (document == null) {
+            Path file = Path.of("..", "shared", "DOC.md");
+            try {
+                document = Files.exists(file) ? Files.readString(file).replaceAll("\\s+", " ") : "";
+            } catch (IOException e) {
+                document = "";
+            }
+        }
+        return document;
+    }
+
+    private static void wrong(String what) {
+        wrong++;
+        System.out.println(sentence + what);
+    }
 
     static void same(String what, double got, double want) {
         asked++;
         if (got != want) {
-            wrong++;
-            System.out.println(what + " answered " + got + ", due is " + want);
+            wrong(what + " answered " + got + ", due is " + want);
         }
     }
 
     static void sameLong(String what, long got, long want) {
         asked++;
         if (got != want) {
-            wrong++;
-            System.out.println(what + " answered " + got + ", due is " + want);
+            wrong(what + " answered " + got + ", due is " + want);
         }
     }
 
     static void sameText(String what, String got, String want) {
         asked++;
         if (!got.equals(want)) {
-            wrong++;
-            System.out.println(what + " answered " + got + ", due is " + want);
+            wrong(what + " answered " + got + ", due is " + want);
         }
+    }
+
+    static void is(String what, boolean holds) {
+        sameText(what, holds ? "true" : "false", "true");
     }
 
     static void fails(String what, Class<? extends RuntimeException> due, Call call) {
@@ -54,6 +99,7 @@ final class Check {
     }
 
     static void end() {
+        closeSentence();
         System.out.println(wrong + " of " + asked + " answers are not as due");
         if (wrong != 0 || asked == 0) {
             System.exit(1);
@@ -81,8 +127,7 @@ final class Check {
         MultiwayCut cut = new MultiwayCut();
         int edges = load(cut, text);
         if (edges < 0) {
-            wrong++;
-            System.out.println(text + " has the error " + edges + " at " + cut.errorOffset());
+            wrong(text + " has the error " + edges + " at " + cut.errorOffset());
         }
         return cut;
     }
