@@ -12,6 +12,11 @@ public final class ModelRunsTest {
         "weight/10+1", "((weight*high-low)/((2)))+(((low)))", "3", "100-weight", "9999*9999*weight-9999*9999+weight",
     };
 
+    // 32 and 64 more than an index look like it to a shift.
+    private static final int[] FAR = {
+        Integer.MIN_VALUE, Integer.MIN_VALUE + 1, -256, -64, -32, 31, 32, 33, 36, 64, 68, 256, Integer.MAX_VALUE,
+    };
+
     private final Random random;
     private final MultiwayCut cut = new MultiwayCut();
     private final NaiveCut model = new NaiveCut();
@@ -95,8 +100,11 @@ public final class ModelRunsTest {
         return vertex(v) && model.terminal[v];
     }
 
-    /** Mostly one of those below the bound, sometimes one that is just outside. */
+    /** Mostly one of those below the bound, sometimes one that is just outside, and seldom one far away. */
     private int near(int bound) {
+        if (random.nextInt(50) == 0) {
+            return FAR[random.nextInt(FAR.length)];
+        }
         return random.nextInt(12) == 0 ? random.nextInt(bound + 2) - 1 : random.nextInt(Math.max(1, bound));
     }
 
